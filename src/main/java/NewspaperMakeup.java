@@ -369,7 +369,6 @@ public final class NewspaperMakeup {
         trial.copyFrom(now);
         int added = trial.paragraphCount[story];
         trial.appendParagraph(story, MAX_PARAGRAPH_LINES);
-        // A story may have room with some length and none with a shorter one: every length is tried.
         for (int lines = MAX_PARAGRAPH_LINES; lines >= 1; lines--) {
             trial.changeParagraph(story, added, lines);
             maker.plan(trial, planned);
@@ -484,7 +483,6 @@ public final class NewspaperMakeup {
             home[story] = itsHome;
             paragraphCount[story] = 0;
             alive[story] = true;
-            changed[story] = true;
             storyCount++;
             return story;
         }
