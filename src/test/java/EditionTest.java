@@ -32,6 +32,7 @@ final class EditionTest {
         moved();
         movedByFirstParagraph();
         latestEditionStays();
+        lastStory();
         checks.finish("EditionTest");
     }
 
@@ -436,6 +437,31 @@ final class EditionTest {
         x.make();
         due("one paragraph more at the end", x.wasMoved(0), 0);
         due("one paragraph more at the end", x.piece(0, 1, 5), 3);
+    }
+
+    /** The twelfth story with its eight paragraphs and three pieces: the last place of every row. */
+    private static void lastStory() {
+        NewspaperMakeup x = new NewspaperMakeup();
+        x.setPages(5, 4, 14);
+        for (int story = 0; story < 12; story++) {
+            x.addStory(2, 4, 4);
+            for (int i = 1; i < 8; i++) {
+                x.addParagraph(story, 4);
+            }
+        }
+        x.setRank(11, 1);
+        due("four columns of page 4 for the first pieces", x.make(), 8);
+        piece(x, 11, 0, 4, 0, 0, 13, 0, 3, 0, NONE);
+        piece(x, 11, 1, 0, 0, 0, 14, 3, 3, 1, 4);
+        piece(x, 11, 2, 1, 0, 0, 9, 6, 2, NONE, 0);
+        due("all stay", x.make(), 8);
+        due("page of no fourth piece", x.piece(11, 3, 0), NONE);
+        edition(x, 4, 8, 0, 12, 16, 5 * 4 * 14 - 4 * 36);
+        due("eight paragraphs", x.addParagraph(11, 1), NewspaperMakeup.CAPACITY_EXCEEDED);
+        due("remove the last paragraph", x.setParagraph(11, 7, 0), 4);
+        due("remove the first paragraph", x.setParagraph(11, 0, 0), 4);
+        x.make();
+        piece(x, 11, 1, 0, 0, 0, 13, 3, 3, NONE, 4);
     }
 
     private static void latestEditionStays() {
