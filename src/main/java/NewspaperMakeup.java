@@ -519,9 +519,10 @@ public final class NewspaperMakeup {
         }
 
         int linesOfParagraphs(int story, int first, int number) {
+            int row = story * MAX_PARAGRAPHS;
             int sum = 0;
-            for (int i = 0; i < number; i++) {
-                sum += linesOf(story, first + i);
+            for (int i = first; i < first + number; i++) {
+                sum += paragraphLines[row + i];
             }
             return sum;
         }
