@@ -22,7 +22,7 @@ final class EditionTest {
         threePieces();
         mostParagraphs();
         heldOver();
-        noWayBack();
+        restByALine();
         stays();
         ranksDoNotCount();
         changes();
@@ -237,8 +237,8 @@ final class EditionTest {
         due("killed", x.wasMoved(3), NONE);
     }
 
-    private static void noWayBack() {
-        // A shorter first piece would let the rest in, but the first takes as many as possible.
+    private static void restByALine() {
+        // One line decides over the rest, and with it over the whole story.
         NewspaperMakeup x = Checks.loaded(2, 1, 20, "5@0:9,2,9,9;1@0:7;1@1:2;");
         due("make", x.make(), 1);
         due("13 lines hold 9 + 2 and a jump line, 18 the rest but not 19", x.pieces(0), 0);

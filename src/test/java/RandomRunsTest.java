@@ -2,8 +2,10 @@ import java.util.Random;
 
 /** Compares the program with the naive one in long random runs; the seeds are fixed. */
 final class RandomRunsTest {
-    private static final int CALLS = 512;
-    private static final int RUNS = 400;
+    /** What an object answers behind its 512th call is free. */
+    private static final int MOST_CALLS = 512;
+    private static final int LONGEST_TEXT = 130;
+    private static final int RUNS = 800;
     private static final int[] WILD = {Integer.MIN_VALUE, Integer.MAX_VALUE, -1, -2, 256, 1000, 64};
 
     private final Random random;
@@ -11,6 +13,7 @@ final class RandomRunsTest {
     private final NaiveMakeup naive = new NaiveMakeup();
     private final Checks checks;
     private final String name;
+    private int calls = 0;
     /** The greatest paragraph length of this run, so that some runs have small stories. */
     private final int longest;
 
@@ -53,23 +56,21 @@ final class RandomRunsTest {
     }
 
     private void due(String call, int got, int want) {
+        calls++;
         checks.due(name + ": " + call, got, want);
     }
 
-    private void run() {
-        for (int calls = 0; calls < CALLS; ) {
+    private void run(int most) {
+        while (calls < most) {
             int kind = random.nextInt(100);
             if (kind < 45) {
                 change();
-                calls++;
-            } else if (kind < 47 && calls < CALLS - 130) {
-                calls += text();
+            } else if (kind < 47 && calls < most - LONGEST_TEXT) {
+                text();
             } else if (kind < 55) {
                 due("make()", program.make(), naive.make());
-                calls++;
             } else {
                 ask();
-                calls++;
             }
         }
     }
@@ -134,21 +135,17 @@ final class RandomRunsTest {
         }
     }
 
-    private int text() {
-        int calls = 0;
+    private void text() {
         if (random.nextInt(3) > 0) {
             due("clearText", program.clearText(), naive.clearText());
-            calls++;
         }
         String signs = anyText();
         for (int i = 0; i < signs.length(); i++) {
             due("appendCharacter " + (int) signs.charAt(i),
                     program.appendCharacter(signs.charAt(i)),
                     naive.appendCharacter(signs.charAt(i)));
-            calls++;
         }
         due("load " + signs, program.load(), naive.load());
-        return calls + 1;
     }
 
     private String anyText() {
@@ -250,33 +247,47 @@ final class RandomRunsTest {
         }
     }
 
-    /** Asks everything that a state answers, so that no difference stays hidden in it. */
+    /** Asks all that a state answers of some story, so that no difference stays hidden in it. */
     private void askAll() {
         for (int what = 0; what < 8; what++) {
             due("count " + what, program.count(what), naive.count(what));
             due("edition " + what, program.edition(what), naive.edition(what));
             due("next " + what, program.next(what), naive.next(what));
         }
-        for (int s = 0; s < 12; s++) {
-            for (int what = 0; what < 8; what++) {
-                due("story " + s + " " + what, program.story(s, what), naive.story(s, what));
-                due("paragraph " + s + " " + what, program.paragraph(s, what),
-                        naive.paragraph(s, what));
-                for (int piece = 0; piece < 3; piece++) {
-                    due("piece " + s + " " + piece + " " + what, program.piece(s, piece, what),
-                            naive.piece(s, piece, what));
-                }
-            }
-            due("wasMoved " + s, program.wasMoved(s), naive.wasMoved(s));
+        int first = random.nextInt(12);
+        for (int i = 0; i < 12 && calls + 42 <= MOST_CALLS; i++) {
+            askAllOf((first + i) % 12);
         }
+        while (calls < MOST_CALLS && naive.count(7) > 0) {
+            due("undo", program.undo(), naive.undo());
+        }
+    }
+
+    private void askAllOf(int s) {
+        for (int what = 0; what < 8; what++) {
+            due("story " + s + " " + what, program.story(s, what), naive.story(s, what));
+            due("paragraph " + s + " " + what, program.paragraph(s, what),
+                    naive.paragraph(s, what));
+            for (int piece = 0; piece < 3; piece++) {
+                due("piece " + s + " " + piece + " " + what, program.piece(s, piece, what),
+                        naive.piece(s, piece, what));
+            }
+        }
+        due("wasMoved " + s, program.wasMoved(s), naive.wasMoved(s));
+        due("roomFor " + s, program.roomFor(s), naive.roomFor(s));
     }
 
     public static void main(String[] args) {
         Checks checks = new Checks();
         for (int seed = 0; seed < RUNS; seed++) {
             RandomRunsTest test = new RandomRunsTest(seed, checks);
-            test.run();
-            test.askAll();
+            // Some runs go to the last call, others leave calls to ask for all that is there.
+            if (seed % 2 == 0) {
+                test.run(MOST_CALLS);
+            } else {
+                test.run(100 + seed % 300);
+                test.askAll();
+            }
         }
         checks.finish("RandomRunsTest");
     }
