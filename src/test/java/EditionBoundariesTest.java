@@ -55,6 +55,8 @@ final class EditionBoundariesTest {
         movedByTop();
         movedByFirstParagraph();
         notMoved();
+        notMovedAnyMore();
+        twelfthStory();
         checks.finish("EditionBoundariesTest");
     }
 
@@ -297,6 +299,13 @@ final class EditionBoundariesTest {
         y.setHome(1, 0);
         y.undo();
         moves("the change is undone", y, 9);
+        // Story 0 stands below story 1 here.
+        NewspaperMakeup w = made(2, 1, 20, "2@0:5;1@0:9;");
+        w.setHome(0, 0);
+        w.make();
+        w.kill(1);
+        w.make();
+        due("it was changed before the edition before", w.piece(0, 0, 2), 9);
         NewspaperMakeup z = belowAGap();
         z.setHome(0, 0);
         z.addStory(9, 1, 1);
@@ -375,6 +384,13 @@ final class EditionBoundariesTest {
         piece(x, 2, 0, 0, 0, 0, 10, 0, 1, 1, NONE);
         piece(x, 2, 1, 1, 0, 0, 10, 1, 1, 2, 0);
         piece(x, 2, 2, 2, 0, 0, 10, 2, 1, NONE, 1);
+        // Questions about other editions do not stand in the way of the pieces that are kept.
+        NewspaperMakeup z = made(4, 1, 10, "5@0:9,8,8;");
+        z.addStory(1, 2, 2);
+        due("the third piece would go to page 3", z.next(1), 1);
+        z.undo();
+        z.make();
+        piece(z, 0, 2, 2, 0, 0, 9, 2, 1, NONE, 1);
         // Two pieces are kept though the whole story has room now.
         NewspaperMakeup y = made(2, 1, 10, "1@0:5;2@0:4,4;");
         y.kill(0);
@@ -927,5 +943,65 @@ final class EditionBoundariesTest {
         x.make();
         due("on more pages, at the same places", x.wasMoved(0), 0);
         due("none", x.edition(2), 0);
+    }
+
+    private static void notMovedAnyMore() {
+        checks.sentence("A story is moved in an edition if it is printed in it");
+        NewspaperMakeup x = new NewspaperMakeup();
+        for (int story = 0; story < 12; story++) {
+            x.addStory(1, 0, 1);
+        }
+        x.make();
+        for (int story = 0; story < 12; story++) {
+            x.setHome(story, 1);
+        }
+        x.make();
+        due("all moved", x.edition(2), 12);
+        for (int story = 0; story < 12; story++) {
+            x.kill(story);
+        }
+        due("none would be moved", x.next(1), 0);
+        x.make();
+        due("killed: none is moved", x.edition(2), 0);
+    }
+
+    /** The last story with the last of its paragraphs and pieces, on the last lines. */
+    private static void twelfthStory() {
+        checks.sentence("In an edition, a story is printed in 1 to 3 pieces");
+        NewspaperMakeup x = new NewspaperMakeup();
+        x.setPages(3, 1, 10);
+        for (int story = 0; story < 12; story++) {
+            x.addStory(story == 11 ? 1 : 2, 0, 3);
+        }
+        for (int lines : new int[] {3, 3, 4, 4, 2, 3, 4}) {
+            x.addParagraph(11, lines);
+        }
+        for (int edition = 1; edition <= 2; edition++) {
+            due("all others are held over", x.make(), 11);
+            piece(x, 11, 0, 0, 0, 0, 10, 0, 3, 1, NONE);
+            piece(x, 11, 1, 1, 0, 0, 10, 3, 2, 2, 0);
+            piece(x, 11, 2, 2, 0, 0, 10, 5, 3, NONE, 1);
+            due("no fourth piece", x.piece(11, 3, 0), NONE);
+            due("not moved", x.wasMoved(11), 0);
+            for (int page = 0; page < 3; page++) {
+                due("full", x.longestGap(page), 0);
+                due("first line", x.at(page, 0, 0), 11);
+                due("last line", x.at(page, 0, 9), 11);
+            }
+        }
+        due("the eighth paragraph", x.setParagraph(11, 7, 0), 4);
+        due("seven", x.story(11, 2), 7);
+        x.make();
+        piece(x, 11, 2, 2, 0, 0, 6, 5, 2, NONE, 1);
+        x.undo();
+        due("the eighth paragraph", x.undo(), 6 - 2);
+        due("is there again", x.paragraph(11, 7), 4);
+        due("the first paragraph", x.setParagraph(11, 0, 0), 3);
+        x.setHome(11, 1);
+        x.make();
+        due("moved", x.wasMoved(11), 1);
+        due("moved", x.edition(2), 1);
+        x.undo();
+        due("not moved", x.wasMoved(11), 0);
     }
 }

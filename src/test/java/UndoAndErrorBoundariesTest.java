@@ -20,6 +20,7 @@ final class UndoAndErrorBoundariesTest {
         refusedCallsSaveNothing();
         otherCallsSaveNothing();
         everythingButTheText();
+        everythingOfTheTwelfthStory();
         atMostSixStates();
         oldestIsDiscarded();
         mostRecentFirst();
@@ -256,6 +257,33 @@ final class UndoAndErrorBoundariesTest {
         due("story 1 is changed", y.next(1), 1);
         y.undo();
         due("story 1 is not changed", y.next(1), 0);
+    }
+
+    private static void everythingOfTheTwelfthStory() {
+        checks.sentence("everything but the text");
+        NewspaperMakeup x = new NewspaperMakeup();
+        x.setPages(2, 1, 20);
+        for (int story = 0; story < 12; story++) {
+            x.addStory(story == 0 ? 1 : story == 11 ? 2 : 3, story == 11 ? 0 : story % 2, 3);
+        }
+        for (int paragraph = 1; paragraph < 8; paragraph++) {
+            x.addParagraph(11, 1);
+        }
+        x.make();
+        due("below story 0", x.piece(11, 0, 2), 3);
+        x.kill(0);
+        for (int call = 0; call < 6; call++) {
+            int answer = call == 0 ? x.setRank(11, 9) : call == 1 ? x.setHome(11, 0)
+                    : call == 2 ? x.setParagraph(11, 7, 2) : call == 3 ? x.setParagraph(11, 7, 0)
+                    : call == 4 ? x.kill(11) : x.make();
+            due("call " + call, answer >= 0 ? 1 : 0, 1);
+            x.undo();
+            due("rank", x.story(11, 0), 2);
+            due("paragraphs", x.story(11, 2), 8);
+            due("the eighth", x.paragraph(11, 7), 1);
+            due("alive", x.story(11, 4), 1);
+            due("not changed: it would not be moved", x.next(1), 0);
+        }
     }
 
     private static void atMostSixStates() {
